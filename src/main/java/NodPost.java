@@ -438,7 +438,7 @@ public final class NodPost {
         if (what == 0) {
             return Integer.bitCount(who);
         }
-        return who == 0 ? NONE : Integer.numberOfTrailingZeros(who);
+        return leastOf(who);
     }
 
     public int look(int what) throws NoSuchElementException {
@@ -469,6 +469,15 @@ public final class NodPost {
             }
         }
         return who;
+    }
+
+    private int leastOf(int who) {
+        for (int farm = 0; farm < land.farms; farm++) {
+            if ((who >> farm & 1) == 1) {
+                return farm;
+            }
+        }
+        return NONE;
     }
 
     private boolean isSoBy(int farm, int at) {
