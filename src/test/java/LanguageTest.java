@@ -7,9 +7,9 @@ import java.lang.reflect.Modifier;
 import java.nio.file.Files;
 import java.nio.file.Path;
 import java.util.ArrayList;
-import java.util.HashSet;
 import java.util.List;
 import java.util.Set;
+import java.util.TreeSet;
 import java.util.regex.Matcher;
 import java.util.regex.Pattern;
 
@@ -35,13 +35,18 @@ public final class LanguageTest {
         Check.end("LanguageTest");
     }
 
-    private static void face() throws IOException {
-        Set<String> due = new HashSet<>();
+    private static Set<String> publicNames() throws IOException {
+        Set<String> names = new TreeSet<>();
         Matcher matcher = Pattern.compile("    public (?:int|boolean|void) (\\w+)\\(").matcher(Files.readString(DOCUMENT));
         while (matcher.find()) {
-            due.add(matcher.group(1));
+            names.add(matcher.group(1));
         }
-        Set<String> names = new HashSet<>();
+        return names;
+    }
+
+    private static void face() throws IOException {
+        Set<String> due = publicNames();
+        Set<String> names = new TreeSet<>();
         for (Method method : NodPost.class.getDeclaredMethods()) {
             if (Modifier.isPrivate(method.getModifiers())) {
                 Check.is("private " + method.getName() + " bears a public name", due.contains(method.getName()), false);
@@ -49,7 +54,7 @@ public final class LanguageTest {
                 names.add(method.getName());
             }
         }
-        Check.is("the face", new java.util.TreeSet<>(names), new java.util.TreeSet<>(due));
+        Check.is("the face", names, due);
         for (Constructor<?> constructor : NodPost.class.getDeclaredConstructors()) {
             Check.is("the constructor's parameters", constructor.getParameterCount(), 0);
         }
@@ -60,11 +65,14 @@ public final class LanguageTest {
         Check.is("final", Modifier.isFinal(NodPost.class.getModifiers()), true);
     }
 
-    private static void classes() {
+    private static void classes() throws IOException {
         List<Class<?>> classes = new ArrayList<>(List.of(NodPost.class.getDeclaredClasses()));
         Check.is("classes inside are too many", classes.size() >= MOST_CLASSES, false);
         for (Class<?> inside : classes) {
             Check.is(inside + " is static", Modifier.isStatic(inside.getModifiers()), true);
+            for (Method method : inside.getDeclaredMethods()) {
+                Check.is(name(inside, method) + " bears a public name", publicNames().contains(method.getName()), false);
+            }
         }
         classes.add(NodPost.class);
         for (Class<?> one : classes) {

@@ -12,6 +12,7 @@ public final class TextTest {
         uplandsOfTheTape();
         faultsOfLines();
         faultsOfExpressions();
+        faultsOfFullTapes();
         whatStaysAndGoes();
         textsOneByOne();
         told();
@@ -170,6 +171,19 @@ public final class TextTest {
         fault("minds ((((((?", 1, 12);
         fault("minds (((((1)))))+(((((1)))));", 0, -1);
         fault("minds seen+far+up+nods+mist+tick;", 0, -1);
+    }
+
+    /** Texts that fill the tape: what is read must not go beyond it. */
+    private static void faultsOfFullTapes() {
+        fault(" ".repeat(700), 0, -1);
+        fault("z".repeat(700), 1, 0);
+        fault("9".repeat(700), 1, 0);
+        fault("minds " + "9".repeat(694), 2, 6);
+        fault("minds " + "z".repeat(694), 3, 6);
+        fault("minds " + "1+".repeat(346) + "1;", 0, -1);
+        fault("minds " + "1+".repeat(347), 1, 700);
+        fault("minds " + "1+".repeat(346) + "1 ", 1, 700);
+        fault("mist 1;" + " ".repeat(689) + "mist", 5, 696);
     }
 
     private static void whatStaysAndGoes() {
