@@ -391,6 +391,9 @@ public final class AheadEdgesTest {
         NodPost row = Check.post(nine + "sight 11;");
         Check.is("PARTS, a row", row.count(7), 1);
         Check.is("A WATCH, a row", row.count(8), 2 | 16 | 128);
+        NodPost mixed = Check.post("farm 0 0 0 1;farm 90 0 0 1;farm 10 0 0 1;farm 80 0 0 1;farm 50 0 0 1;sight 10;");
+        Check.is("PARTS whose FARMS are told in turn", mixed.count(7), 3);
+        Check.is("A WATCH of these", mixed.count(8), 1 | 2 | 16);
         // Two can watch each other: the least as bits; a single one that can comes ahead of two lesser ones.
         Check.is("either can", Check.post("farm 5 0 0 1;farm 6 0 0 1;").count(8), 1);
         Check.is("the third alone", Check.post("farm 10 0 0 1;farm 30 0 0 1;farm 20 0 0 1;").count(8), 4);

@@ -7,6 +7,7 @@ public final class TickEdgesTest {
     }
 
     public static void main(String[] args) {
+        withoutFarms();
         asFarAsMistLets();
         belowTheLine();
         sleepersAreSeen();
@@ -35,6 +36,29 @@ public final class TickEdgesTest {
     private static void row(String when, NodPost post, int what, int... due) {
         for (int farm = 0; farm < due.length; farm++) {
             Check.is(when + ": farm(" + farm + ", " + what + ")", post.farm(farm, what), due[farm]);
+        }
+    }
+
+    private static void withoutFarms() {
+        for (NodPost post : new NodPost[] {new NodPost(), Check.post(""), Check.post("rest 3;sight 60;mist 0;minds 0;")}) {
+            Check.is("hush", post.hush(), -1);
+            Check.is("ticks(0)", post.ticks(0), -1);
+            Check.is("STATUS 1", post.count(14), 2);
+            Check.is("ticks", post.ticks(1), 1);
+            Check.is("ticks", post.ticks(20), 21);
+            int[] due = {0, 21, 0, 60, 3, 0, 0, 0, 0, -1, 2, 0, 0, 0, 2, 0};
+            for (int what = 0; what < due.length; what++) {
+                Check.is("without FARMS, count " + what, post.count(what), due[what]);
+            }
+            Check.noSuch("begin", () -> post.begin(0));
+            Check.noSuch("sleep", () -> post.sleep(0, true));
+            Check.noSuch("hat", () -> post.hat(0, 0));
+            Check.noSuch("see", () -> post.see(0, 1, true));
+            Check.noSuch("farm", () -> post.farm(0, 0));
+            Check.is("undo", post.undo(), 1);
+            Check.is("undo", post.undo(), 0);
+            Check.is("undo", post.undo(), -1);
+            Check.is("the TICK", post.count(1), 0);
         }
     }
 
